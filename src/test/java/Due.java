@@ -1,0 +1,84 @@
+/** Collects the answers that are not as due, prints them, and ends the test with their verdict. */
+final class Due {
+    private final String test;
+    private int asked = 0;
+    private int wrong = 0;
+
+    Due(String test) {
+        this.test = test;
+    }
+
+    void is(String call, long got, long want) {
+        asked++;
+        if (got != want) {
+            wrong++;
+            System.out.println(test + ": " + call + " answered " + got + ", due is " + want);
+        }
+    }
+
+    /** Adds a node that must be accepted, and answers its index. */
+    int add(ImpreciseRaise x, int kind, int a, int b, int c) {
+        int count = x.nodeCount();
+        is("addNode(" + kind + ", " + a + ", " + b + ", " + c + ")", x.addNode(kind, a, b, c), count);
+        return count;
+    }
+
+    int add(ImpreciseRaise x, int kind, int a, int b) {
+        return add(x, kind, a, b, -1);
+    }
+
+    int add(ImpreciseRaise x, int kind, int a) {
+        return add(x, kind, a, -1, -1);
+    }
+
+    void denotes(ImpreciseRaise x, int i, int kind, int value) {
+        is("denKind(" + i + ")", x.denKind(i), kind);
+        is("denSet(" + i + ")", x.denSet(i), 0);
+        is("denValue(" + i + ")", x.denValue(i), value);
+    }
+
+    void denotesSet(ImpreciseRaise x, int i, int set) {
+        is("denKind(" + i + ")", x.denKind(i), ImpreciseRaise.R_EXC);
+        is("denSet(" + i + ")", x.denSet(i), set);
+        is("denValue(" + i + ")", x.denValue(i), 0);
+    }
+
+    void last(ImpreciseRaise x, int outcome, int value, int exception) {
+        is("lastOutcome()", x.lastOutcome(), outcome);
+        is("lastValue()", x.lastValue(), value);
+        is("lastException()", x.lastException(), exception);
+    }
+
+    void gives(ImpreciseRaise x, int root, int kind, int value) {
+        is("run(" + root + ")", x.run(root), kind);
+        last(x, kind, value, 0);
+    }
+
+    void raises(ImpreciseRaise x, int root, int code) {
+        is("run(" + root + ")", x.run(root), ImpreciseRaise.R_EXC);
+        last(x, ImpreciseRaise.R_EXC, 0, code);
+    }
+
+    void state(ImpreciseRaise x, int i, int state, int value) {
+        is("nodeState(" + i + ")", x.nodeState(i), state);
+        is("nodeValue(" + i + ")", x.nodeValue(i), value);
+    }
+
+    /** Every per-node query gives its out-of-range answer. */
+    void outOfRange(ImpreciseRaise x, int i) {
+        is("nodeKind(" + i + ")", x.nodeKind(i), -1);
+        state(x, i, ImpreciseRaise.R_NONE, 0);
+        denotes(x, i, ImpreciseRaise.R_NONE, 0);
+    }
+
+    boolean allRight() {
+        return wrong == 0;
+    }
+
+    void end() {
+        System.out.println(test + ": " + asked + " answers, " + wrong + " not as due");
+        if (wrong != 0 || asked == 0) {
+            System.exit(1);
+        }
+    }
+}
