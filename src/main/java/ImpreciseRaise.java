@@ -265,7 +265,8 @@ public final class ImpreciseRaise {
     }
 
     // The reference that gives the result of a K_IF, K_SEQ, K_FST or K_SND node once its first
-    // reference has given a value; NO_REFERENCE if that value is of the wrong type.
+    // reference has given a value; NO_REFERENCE if that value is of the wrong type. The payload of
+    // a pair is always the index of its node, so it is safe to look up its fields.
     private int continuation(int n, long value) {
         boolean pair = kindOf(value) == R_PAIR;
         int payload = payloadOf(value);
@@ -301,7 +302,7 @@ public final class ImpreciseRaise {
 
     // Either sets the answer at once or makes n the innermost active node.
     private void demand(int n) {
-        if (n >= count) {
+        if (!isNode(n)) {
             answer = outcome(R_EXC, EXC_MISSING);
         } else if (kindOf(states[n]) != ST_UNEVAL) {
             answer = states[n];
@@ -314,6 +315,7 @@ public final class ImpreciseRaise {
         }
     }
 
+    // There is room for n: every active node stands in frames once, and n is not active yet.
     private void enter(int n) {
         frames[depth] = n;
         depth++;
@@ -433,7 +435,7 @@ public final class ImpreciseRaise {
     }
 
     private long denotationOf(int reference) {
-        return reference >= count ? singleton(EXC_MISSING) : denotations[reference];
+        return isNode(reference) ? denotations[reference] : singleton(EXC_MISSING);
     }
 
     private static long singleton(int code) {
