@@ -33,6 +33,7 @@ public final class ImpreciseRaise {
     private static final int REFUSED = -1;
     private static final int NO_KIND = -1;
     private static final int NO_REFERENCE = -1;
+    private static final int NO_NODE = -1;
 
     // A method can answer one number only, so an outcome is packed into a long: its kind (R_INT,
     // R_PAIR, R_EXC) above 32 bits of payload. The payload of R_EXC is a code in the machine and
@@ -71,9 +72,10 @@ public final class ImpreciseRaise {
     private final long[] denotations = new long[MAX_CAP];
     private final long[] nextDenotations = new long[MAX_CAP];
 
-    // The active nodes of a run, outermost first: the stack that recursion would have used.
-    private final int[] frames = new int[MAX_CAP];
-    private int depth = 0;
+    // The active nodes of a run, linked from the innermost one to the node that demanded it and so
+    // on outwards: the stack that recursion would have used, with no bound of its own to run over.
+    private int innermost = NO_NODE;
+    private final int[] demandedBy = new int[MAX_CAP];
     private final int[] stages = new int[MAX_CAP];
     private final boolean[] rightFirst = new boolean[MAX_CAP];
     private final long[] earlierOperands = new long[MAX_CAP];
@@ -265,11 +267,10 @@ public final class ImpreciseRaise {
     }
 
     // The reference that gives the result of a K_IF, K_SEQ, K_FST or K_SND node once its first
-    // reference has given a value; NO_REFERENCE if that value is of the wrong type. The payload of
-    // a pair is always the index of its node, so it is safe to look up its fields.
+    // reference has given a value; NO_REFERENCE if that value is of the wrong type.
     private int continuation(int n, long value) {
-        boolean pair = kindOf(value) == R_PAIR;
         int payload = payloadOf(value);
+        boolean pair = kindOf(value) == R_PAIR && isNode(payload);
         switch (kinds[n]) {
             case K_SEQ:
                 return seconds[n];
@@ -286,10 +287,10 @@ public final class ImpreciseRaise {
 
     private void evaluate(int root) {
         scriptPosition = 0;
-        depth = 0;
+        innermost = NO_NODE;
         demand(root);
-        for (int step = 0; step < MAX_STEPS && depth > 0 && kindOf(answer) != R_EXC; step++) {
-            int n = frames[depth - 1];
+        for (int step = 0; step < MAX_STEPS && isNode(innermost) && kindOf(answer) != R_EXC; step++) {
+            int n = innermost;
             if (stages[n] == ENTERED) {
                 demandFirst(n);
             } else if (stages[n] == AWAITS_FIRST) {
@@ -315,10 +316,9 @@ public final class ImpreciseRaise {
         }
     }
 
-    // There is room for n: every active node stands in frames once, and n is not active yet.
     private void enter(int n) {
-        frames[depth] = n;
-        depth++;
+        demandedBy[n] = innermost;
+        innermost = n;
         stages[n] = ENTERED;
         answer = NOTHING;
     }
@@ -366,7 +366,7 @@ public final class ImpreciseRaise {
         if (kindOf(answer) != R_EXC) {
             states[n] = answer;
             stages[n] = IDLE;
-            depth--;
+            innermost = demandedBy[n];
         }
     }
 
@@ -374,7 +374,7 @@ public final class ImpreciseRaise {
         for (int i = 0; i < count; i++) {
             stages[i] = IDLE;
         }
-        depth = 0;
+        innermost = NO_NODE;
     }
 
     // ---- the denotation ----

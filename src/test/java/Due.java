@@ -1,6 +1,12 @@
-/** Collects the answers that are not as due, prints them, and ends the test with their verdict. */
+/**
+ * Collects the answers that are not as due, sentence by sentence of the document, prints them, and ends the test
+ * with their verdict.
+ */
 final class Due {
     private final String test;
+    private String sentence = "";
+    private int sentences = 0;
+    private int askedOfSentence = 0;
     private int asked = 0;
     private int wrong = 0;
 
@@ -8,12 +14,33 @@ final class Due {
         this.test = test;
     }
 
+    /** The answers asked from here on belong to these words of the document. */
+    void sentence(String words) {
+        endSentence();
+        sentence = words;
+        sentences++;
+        askedOfSentence = 0;
+    }
+
+    // A sentence without an answer would pass whatever the program did.
+    private void endSentence() {
+        if (sentences > 0 && askedOfSentence == 0) {
+            wrong++;
+            System.out.println(test + ": nothing is asked of \"" + sentence + "\"");
+        }
+    }
+
     void is(String call, long got, long want) {
         asked++;
+        askedOfSentence++;
         if (got != want) {
             wrong++;
-            System.out.println(test + ": " + call + " answered " + got + ", due is " + want);
+            System.out.println(test + ": \"" + sentence + "\": " + call + " answered " + got + ", due is " + want);
         }
+    }
+
+    void isTrue(String claim, boolean holds) {
+        is(claim, holds ? 1 : 0, 1);
     }
 
     /** Adds a node that must be accepted, and answers its index. */
@@ -29,6 +56,13 @@ final class Due {
 
     int add(ImpreciseRaise x, int kind, int a) {
         return add(x, kind, a, -1, -1);
+    }
+
+    /** A node that must be refused: the answer is -1, and no node has come. */
+    void refuses(ImpreciseRaise x, int kind, int a, int b, int c) {
+        int count = x.nodeCount();
+        is("addNode(" + kind + ", " + a + ", " + b + ", " + c + ")", x.addNode(kind, a, b, c), -1);
+        is("nodeCount() after a refusal", x.nodeCount(), count);
     }
 
     void denotes(ImpreciseRaise x, int i, int kind, int value) {
@@ -64,6 +98,10 @@ final class Due {
         is("nodeValue(" + i + ")", x.nodeValue(i), value);
     }
 
+    void unevaluated(ImpreciseRaise x, int i) {
+        state(x, i, ImpreciseRaise.ST_UNEVAL, 0);
+    }
+
     /** Every per-node query gives its out-of-range answer. */
     void outOfRange(ImpreciseRaise x, int i) {
         is("nodeKind(" + i + ")", x.nodeKind(i), -1);
@@ -76,7 +114,8 @@ final class Due {
     }
 
     void end() {
-        System.out.println(test + ": " + asked + " answers, " + wrong + " not as due");
+        endSentence();
+        System.out.println(test + ": " + sentences + " sentences, " + asked + " answers, " + wrong + " not as due");
         if (wrong != 0 || asked == 0) {
             System.exit(1);
         }

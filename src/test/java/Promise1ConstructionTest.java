@@ -1,55 +1,103 @@
 /** Promise 1: clamping, and what a fresh object answers. */
 public final class Promise1ConstructionTest {
-    private static final int[][] CLAMPED = {
-        {Integer.MIN_VALUE, 8}, {-1, 8}, {0, 8}, {7, 8}, {8, 8}, {9, 9}, {20, 20},
-        {31, 31}, {32, 32}, {33, 32}, {Integer.MAX_VALUE, 32},
-    };
+    private static void acceptsEveryInt(Due due) {
+        due.sentence("accepts every int");
+        for (int shift = 0; shift < 32; shift++) {
+            int power = 1 << shift;
+            for (int capacity : new int[] {power, power - 1, power + 1, -power, ~power}) {
+                ImpreciseRaise x = new ImpreciseRaise(capacity);
+                due.is("new(" + capacity + ").capacity()", x.capacity(), Math.max(8, Math.min(32, capacity)));
+                due.add(x, ImpreciseRaise.K_CONST, capacity);
+            }
+        }
+    }
 
-    private static void fresh(Due due, int capacity, int cap) {
+    /** CAP is not only told: it bounds the nodes and the references. */
+    private static void hasCap(Due due, int capacity, int cap) {
         ImpreciseRaise x = new ImpreciseRaise(capacity);
         due.is("new(" + capacity + ").capacity()", x.capacity(), cap);
-        due.is("nodeCount()", x.nodeCount(), 0);
-        due.is("script()", x.script(), 0);
-        due.last(x, ImpreciseRaise.R_NONE, 0, 0);
-        for (int i = -2; i <= 34; i++) {
-            due.outOfRange(x, i);
-            due.is("run(" + i + ")", x.run(i), ImpreciseRaise.R_NONE);
-        }
-        due.outOfRange(x, Integer.MIN_VALUE);
-        due.outOfRange(x, Integer.MAX_VALUE);
-    }
-
-    private static void capNeverChanges(Due due, int capacity, int cap) {
-        ImpreciseRaise x = new ImpreciseRaise(capacity);
+        due.refuses(x, ImpreciseRaise.K_FST, cap, 0, 0);
         for (int i = 0; i < cap; i++) {
-            due.add(x, ImpreciseRaise.K_ADD, cap - 1, 0);
-            due.is("capacity()", x.capacity(), cap);
+            due.add(x, ImpreciseRaise.K_FST, cap - 1);
         }
-        due.is("addNode on a full graph", x.addNode(ImpreciseRaise.K_CONST, 1, 0, 0), -1);
-        x.run(0);
-        x.resetThunks();
-        due.is("capacity()", x.capacity(), cap);
+        due.refuses(x, ImpreciseRaise.K_CONST, 0, 0, 0);
     }
 
-    private static void objectsAreApart(Due due) {
-        ImpreciseRaise x = new ImpreciseRaise(8);
-        ImpreciseRaise y = new ImpreciseRaise(8);
-        due.add(x, ImpreciseRaise.K_CONST, 3);
-        x.setScript(9L);
-        x.run(0);
-        due.is("nodeCount() of the other", y.nodeCount(), 0);
-        due.is("script() of the other", y.script(), 0);
-        due.last(y, ImpreciseRaise.R_NONE, 0, 0);
-        due.outOfRange(y, 0);
+    private static void clamping(Due due) {
+        due.sentence("below MIN_CAP it becomes MIN_CAP (8)");
+        for (int capacity : new int[] {Integer.MIN_VALUE, -33, -8, -1, 0, 1, 7}) {
+            hasCap(due, capacity, 8);
+        }
+        due.sentence("above MAX_CAP it becomes MAX_CAP (32)");
+        for (int capacity : new int[] {33, 34, 64, 256, Integer.MAX_VALUE}) {
+            hasCap(due, capacity, 32);
+        }
+        due.sentence("otherwise it is capacity itself: at MIN_CAP");
+        hasCap(due, 8, 8);
+        due.sentence("otherwise it is capacity itself: at MAX_CAP");
+        hasCap(due, 32, 32);
+        due.sentence("otherwise it is capacity itself: between the bounds");
+        for (int capacity = 9; capacity < 32; capacity++) {
+            hasCap(due, capacity, capacity);
+        }
+    }
+
+    private static void capNeverChanges(Due due) {
+        due.sentence("CAP never changes afterwards");
+        for (int capacity : new int[] {-1, 8, 9, 20, 31, 32, 33}) {
+            ImpreciseRaise x = new ImpreciseRaise(capacity);
+            int cap = x.capacity();
+            for (int i = 0; i <= cap; i++) {
+                x.addNode(i % 2 == 0 ? ImpreciseRaise.K_ADD : ImpreciseRaise.K_CONST, cap - 1, 0, 0);
+                due.is("capacity() after addNode", x.capacity(), cap);
+            }
+            x.run(0);
+            due.is("capacity() after a run", x.capacity(), cap);
+            x.run(cap);
+            due.is("capacity() after a refused run", x.capacity(), cap);
+            x.setScript(-1L);
+            due.is("capacity() after setScript", x.capacity(), cap);
+            x.resetThunks();
+            due.is("capacity() after resetThunks", x.capacity(), cap);
+        }
+    }
+
+    private static final int[] CAPACITIES = {Integer.MIN_VALUE, 0, 7, 8, 9, 31, 32, 33, Integer.MAX_VALUE};
+
+    private static void fresh(Due due) {
+        // Whatever other objects have been through, a fresh one knows nothing of it.
+        Sample.everyKind();
+        Sample.full(32).run(0);
+        due.sentence("no nodes, so count = 0");
+        for (int capacity : CAPACITIES) {
+            due.is("nodeCount()", new ImpreciseRaise(capacity).nodeCount(), 0);
+        }
+        due.sentence("script word 0");
+        for (int capacity : CAPACITIES) {
+            due.is("script()", new ImpreciseRaise(capacity).script(), 0);
+        }
+        due.sentence("lastOutcome R_NONE, lastException 0 and lastValue 0");
+        for (int capacity : CAPACITIES) {
+            due.last(new ImpreciseRaise(capacity), ImpreciseRaise.R_NONE, 0, 0);
+        }
+        due.sentence("every per-node query answers its out-of-range answer");
+        for (int capacity : CAPACITIES) {
+            ImpreciseRaise x = new ImpreciseRaise(capacity);
+            for (int i = -34; i <= 34; i++) {
+                due.outOfRange(x, i);
+            }
+            for (int i : Sample.ANY_INT) {
+                due.outOfRange(x, i);
+            }
+        }
     }
 
     public static void main(String[] args) {
         Due due = new Due("Promise1ConstructionTest");
-        for (int[] row : CLAMPED) {
-            fresh(due, row[0], row[1]);
-            capNeverChanges(due, row[0], row[1]);
-        }
-        objectsAreApart(due);
+        acceptsEveryInt(due);
+        clamping(due);
+        capNeverChanges(due);
+        fresh(due);
         due.end();
     }
 }

@@ -1,37 +1,107 @@
 /** Promise 5: the last answers tell of the last accepted run and of nothing else. */
 public final class Promise5LastTest {
-    private static void unmoved(Due due, ImpreciseRaise x, int outcome, int value, int exception) {
-        for (int round = 0; round < 2; round++) {
-            due.last(x, outcome, value, exception);
-        }
-        due.is("run(-1)", x.run(-1), ImpreciseRaise.R_NONE);
-        due.is("run(count)", x.run(x.nodeCount()), ImpreciseRaise.R_NONE);
+    /** Node 0 is a pair, 1 INT 0, 2 INT -5, 3 raises 13, 4 a pair. */
+    private static ImpreciseRaise outcomes() {
+        ImpreciseRaise x = new ImpreciseRaise(8);
+        x.addNode(ImpreciseRaise.K_PAIR, 1, 3, 0);
+        x.addNode(ImpreciseRaise.K_CONST, 0, 0, 0);
+        x.addNode(ImpreciseRaise.K_CONST, -5, 0, 0);
+        x.addNode(ImpreciseRaise.K_RAISE, 13, 0, 0);
+        x.addNode(ImpreciseRaise.K_PAIR, 2, 2, 0);
+        return x;
+    }
+
+    private static void callEverythingButRun(ImpreciseRaise x) {
         x.resetThunks();
         x.setScript(3L);
         x.addNode(12, 0, 0, 0);
+        x.addNode(ImpreciseRaise.K_CONST, 77, 0, 0);
+        x.nodeState(0);
         x.denKind(0);
-        due.last(x, outcome, value, exception);
+        x.denSet(0);
+        x.denValue(0);
+    }
+
+    private static void beforeAnyRun(Due due) {
+        due.sentence("R_NONE before any accepted run; 0 if there has been no accepted run");
+        ImpreciseRaise fresh = new ImpreciseRaise(8);
+        due.last(fresh, ImpreciseRaise.R_NONE, 0, 0);
+        fresh.run(0);
+        due.last(fresh, ImpreciseRaise.R_NONE, 0, 0);
+        ImpreciseRaise x = outcomes();
+        due.last(x, ImpreciseRaise.R_NONE, 0, 0);
+        callEverythingButRun(x);
+        due.last(x, ImpreciseRaise.R_NONE, 0, 0);
+        x.run(-1);
+        x.run(x.nodeCount());
+        due.last(x, ImpreciseRaise.R_NONE, 0, 0);
+    }
+
+    private static void afterValue(Due due) {
+        due.sentence("lastOutcome() answers R_INT, R_PAIR or R_EXC as set by that run");
+        ImpreciseRaise x = outcomes();
+        int[] kinds = {
+            ImpreciseRaise.R_PAIR, ImpreciseRaise.R_INT, ImpreciseRaise.R_INT, ImpreciseRaise.R_EXC, ImpreciseRaise.R_PAIR,
+        };
+        for (int before = 0; before < 5; before++) {
+            for (int root = 0; root < 5; root++) {
+                x.run(before);
+                due.is("run(" + root + ")", x.run(root), kinds[root]);
+                due.is("lastOutcome()", x.lastOutcome(), kinds[root]);
+            }
+        }
+    }
+
+    private static void exceptionOfTheRun(Due due) {
+        due.sentence("lastException() answers that run's exception code, and 0 if it gave a value");
+        ImpreciseRaise x = outcomes();
+        for (int root : new int[] {0, 1, 2, 4}) {
+            x.run(3);
+            due.is("lastException()", x.lastException(), 13);
+            x.run(root);
+            due.is("lastException()", x.lastException(), 0);
+        }
+    }
+
+    private static void valueOfTheRun(Due due) {
+        due.sentence("lastValue() answers the int value, or the pair node index, of that run, and 0 if it raised");
+        ImpreciseRaise x = outcomes();
+        int[] values = {0, 0, -5, 0, 4};
+        for (int root : new int[] {2, 3, 4, 3, 0, 2, 1, 4, 0, 4, 1}) {
+            x.run(root);
+            due.is("lastValue()", x.lastValue(), values[root]);
+        }
+    }
+
+    private static void refusedDoesNotCount(Due due) {
+        due.sentence("A run refused with R_NONE does not count");
+        int[][] rows = {{0, 2, 0, 0}, {1, 1, 0, 0}, {2, 1, -5, 0}, {3, 3, 0, 13}, {4, 2, 4, 0}};
+        for (int[] row : rows) {
+            ImpreciseRaise x = outcomes();
+            x.run(row[0]);
+            for (int refused : new int[] {Integer.MIN_VALUE, -1, 5, 7, 8, 32, Integer.MAX_VALUE}) {
+                due.is("run(" + refused + ")", x.run(refused), ImpreciseRaise.R_NONE);
+                due.last(x, row[1], row[2], row[3]);
+            }
+            callEverythingButRun(x);
+            due.last(x, row[1], row[2], row[3]);
+        }
+    }
+
+    private static void changeNothing(Due due) {
+        due.sentence("None of the three changes any state");
+        Twins.queriesChangeNothing(due, Sample::everyKind, "lastOutcome", "lastException", "lastValue");
+        Twins.queriesChangeNothing(due, Sample::interrupted, "lastOutcome", "lastException", "lastValue");
     }
 
     public static void main(String[] args) {
         Due due = new Due("Promise5LastTest");
-        ImpreciseRaise x = new ImpreciseRaise(8);
-        unmoved(due, x, ImpreciseRaise.R_NONE, 0, 0);
-        due.add(x, ImpreciseRaise.K_CONST, -5);
-        due.add(x, ImpreciseRaise.K_RAISE, 13);
-        due.add(x, ImpreciseRaise.K_PAIR, 0, 1);
-        due.add(x, ImpreciseRaise.K_SND, 2);
-        due.add(x, ImpreciseRaise.K_CONST, 0);
-        unmoved(due, x, ImpreciseRaise.R_NONE, 0, 0);
-        due.gives(x, 0, ImpreciseRaise.R_INT, -5);
-        unmoved(due, x, ImpreciseRaise.R_INT, -5, 0);
-        due.raises(x, 3, 13);
-        unmoved(due, x, ImpreciseRaise.R_EXC, 0, 13);
-        due.gives(x, 2, ImpreciseRaise.R_PAIR, 2);
-        unmoved(due, x, ImpreciseRaise.R_PAIR, 2, 0);
-        due.raises(x, 1, 13);
-        due.gives(x, 4, ImpreciseRaise.R_INT, 0);
-        unmoved(due, x, ImpreciseRaise.R_INT, 0, 0);
+        beforeAnyRun(due);
+        afterValue(due);
+        exceptionOfTheRun(due);
+        valueOfTheRun(due);
+        refusedDoesNotCount(due);
+        changeNothing(due);
         due.end();
     }
 }
