@@ -77,6 +77,7 @@ public final class ImpreciseRaise {
     private int innermost = NO_NODE;
     private final int[] demandedBy = new int[MAX_CAP];
     private final int[] stages = new int[MAX_CAP];
+    // Stays false for a node that is not binary: such a node looks at its first reference first.
     private final boolean[] rightFirst = new boolean[MAX_CAP];
     private final long[] earlierOperands = new long[MAX_CAP];
     private int scriptPosition = 0;
@@ -325,7 +326,6 @@ public final class ImpreciseRaise {
 
     private void demandFirst(int n) {
         stages[n] = AWAITS_FIRST;
-        rightFirst[n] = false;
         if (isBinary(kinds[n])) {
             rightFirst[n] = takeScriptBit() == 1;
         }
@@ -374,7 +374,6 @@ public final class ImpreciseRaise {
         for (int i = 0; i < count; i++) {
             stages[i] = IDLE;
         }
-        innermost = NO_NODE;
     }
 
     // ---- the denotation ----

@@ -1,3 +1,5 @@
+import java.util.function.Supplier;
+
 /** Promise 2: the four refusal conditions, their order, and that a refusal changes nothing. */
 public final class Promise2RefusalTest {
     private static final int[] NO_KINDS = {Integer.MIN_VALUE, -12, -1, 12, 13, 32, Integer.MAX_VALUE};
@@ -80,14 +82,20 @@ public final class Promise2RefusalTest {
         }
     }
 
-    private static void changesNothing(Due due, String condition, boolean full, int[][] calls) {
+    private static void changesNothing(Due due, String condition, Supplier<ImpreciseRaise> make, int[][] calls) {
         due.sentence("a refusal answers -1 and changes nothing: " + condition);
         for (int[] call : calls) {
-            ImpreciseRaise x = full ? Sample.full(9) : Sample.everyKind();
-            ImpreciseRaise twin = full ? Sample.full(9) : Sample.everyKind();
+            ImpreciseRaise x = make.get();
             due.refuses(x, call[0], call[1], call[2], call[3]);
-            Twins.sameEverAfter(due, x, twin);
+            Twins.sameEverAfter(due, x, make.get());
         }
+    }
+
+    private static ImpreciseRaise fullAndUsed() {
+        ImpreciseRaise x = Sample.full(9);
+        x.setScript(5L);
+        x.run(4);
+        return x;
     }
 
     public static void main(String[] args) {
@@ -97,12 +105,12 @@ public final class Promise2RefusalTest {
         wrongCode(due);
         wrongReference(due);
         severalAtOnce(due);
-        changesNothing(due, "count == CAP", true, new int[][] {
+        changesNothing(due, "count == CAP", Promise2RefusalTest::fullAndUsed, new int[][] {
             {0, 7, 0, 0}, {1, 5, 0, 0}, {2, 1, 1, 0}, {7, 0, 0, 0}, {9, 0, 0, 0}, {10, 0, 0, 0},
         });
-        changesNothing(due, "kind", false, new int[][] {{-1, 5, 5, 5}, {12, 5, 5, 5}});
-        changesNothing(due, "code", false, new int[][] {{1, 4, 0, 0}, {1, 16, 0, 0}});
-        changesNothing(due, "reference", false, new int[][] {
+        changesNothing(due, "kind", Sample::everyKind, new int[][] {{-1, 5, 5, 5}, {12, 5, 5, 5}});
+        changesNothing(due, "code", Sample::everyKind, new int[][] {{1, 4, 0, 0}, {1, 16, 0, 0}});
+        changesNothing(due, "reference", Sample::everyKind, new int[][] {
             {2, -1, 0, 0}, {6, 0, 16, 0}, {7, 0, 0, 16}, {8, 0, -1, 0}, {9, 16, 0, 0}, {11, -1, 0, 0},
         });
         due.end();

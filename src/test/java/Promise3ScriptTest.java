@@ -47,6 +47,8 @@ public final class Promise3ScriptTest {
             due.is("script()", x.script(), word);
             due.is("script() again", x.script(), word);
         }
+        due.sentence("script() answers the script word now set: answering changes nothing");
+        Twins.queriesChangeNothing(due, Sample::everyKind, "script");
     }
 
     private static void laterRuns(Due due) {

@@ -70,11 +70,27 @@ public final class Promise4BinaryTest {
         }
     }
 
+    /** PAIR 0 must not pass for INT 0, as a divisor or else. */
+    private static void pairZero(Due due) {
+        for (int kind : Sample.BINARY) {
+            for (long script = 0; script < 2; script++) {
+                ImpreciseRaise x = new ImpreciseRaise(8);
+                x.setScript(script);
+                due.add(x, ImpreciseRaise.K_PAIR, 0, 0);
+                due.add(x, ImpreciseRaise.K_CONST, 0);
+                due.raises(x, due.add(x, kind, 0, 0), ImpreciseRaise.EXC_TYPE);
+                due.raises(x, due.add(x, kind, 1, 0), ImpreciseRaise.EXC_TYPE);
+                due.raises(x, due.add(x, kind, 0, 1), ImpreciseRaise.EXC_TYPE);
+            }
+        }
+    }
+
     private static void faults(Due due) {
         due.sentence("if x or y is a PAIR: raise EXC_TYPE");
         raises(due, 1, 0, ImpreciseRaise.EXC_TYPE, ImpreciseRaise.EXC_TYPE);
         raises(due, 0, 1, ImpreciseRaise.EXC_TYPE, ImpreciseRaise.EXC_TYPE);
         raises(due, 1, 1, ImpreciseRaise.EXC_TYPE, ImpreciseRaise.EXC_TYPE);
+        pairZero(due);
 
         due.sentence("With bit 0, x = FORCE(a) and then y = FORCE(b). With bit 1, y = FORCE(b) and then x = FORCE(a)");
         raises(due, 2, 3, 9, 10);

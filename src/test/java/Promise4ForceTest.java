@@ -145,6 +145,10 @@ public final class Promise4ForceTest {
         due.raises(x, onPair, ImpreciseRaise.EXC_TYPE);
         due.unevaluated(x, taken);
         due.unevaluated(x, other);
+        // PAIR 0 must not pass for INT 0.
+        ImpreciseRaise y = new ImpreciseRaise(8);
+        due.add(y, ImpreciseRaise.K_PAIR, 0, 0);
+        due.raises(y, due.add(y, ImpreciseRaise.K_IF, 0, 0, 0), ImpreciseRaise.EXC_TYPE);
 
         due.sentence("If v is INT not 0: result = FORCE(b)");
         for (int v : new int[] {1, -1, 2, 256, 65536, Integer.MIN_VALUE, Integer.MAX_VALUE}) {
@@ -211,24 +215,31 @@ public final class Promise4ForceTest {
         due.add(x, ImpreciseRaise.K_SND, 0);
         due.add(x, ImpreciseRaise.K_FST, 4);
         due.add(x, ImpreciseRaise.K_SND, 7);
+        due.add(x, ImpreciseRaise.K_FST, 7);
         due.add(x, ImpreciseRaise.K_SND, 4);
         due.gives(x, 5, ImpreciseRaise.R_INT, 8);
         due.unevaluated(x, 3);
         x.resetThunks();
         due.gives(x, 6, ImpreciseRaise.R_INT, 16);
         due.unevaluated(x, 2);
-        // The pair may come from far: node 8 looks into the one that node 7 takes out of node 4.
+        // The pair may come from far: nodes 8 and 9 look into the one that node 7 takes out of node 4.
         x.resetThunks();
         due.gives(x, 8, ImpreciseRaise.R_INT, 16);
         due.state(x, 7, ImpreciseRaise.R_PAIR, 0);
-        due.raises(x, 9, ImpreciseRaise.EXC_MISSING);
+        due.gives(x, 9, ImpreciseRaise.R_INT, 8);
+        due.raises(x, 10, ImpreciseRaise.EXC_MISSING);
         // A pair is lazy: it may hold itself.
-        due.add(x, ImpreciseRaise.K_PAIR, 10, 11);
-        due.add(x, ImpreciseRaise.K_FST, 10);
-        due.gives(x, 11, ImpreciseRaise.R_PAIR, 10);
-        due.add(x, ImpreciseRaise.K_SND, 10);
+        due.add(x, ImpreciseRaise.K_PAIR, 11, 12);
+        due.add(x, ImpreciseRaise.K_FST, 11);
+        due.gives(x, 12, ImpreciseRaise.R_PAIR, 11);
+        due.add(x, ImpreciseRaise.K_SND, 11);
         x.resetThunks();
-        due.gives(x, 12, ImpreciseRaise.R_PAIR, 10);
+        due.gives(x, 13, ImpreciseRaise.R_PAIR, 11);
+        // The last node of a full graph may be the pair.
+        due.add(x, ImpreciseRaise.K_FST, 15);
+        due.add(x, ImpreciseRaise.K_PAIR, 1, 15);
+        due.gives(x, 14, ImpreciseRaise.R_INT, 4);
+        due.gives(x, 10, ImpreciseRaise.R_PAIR, 15);
     }
 
     private static void update(Due due) {

@@ -51,26 +51,15 @@ public final class Promise4RootTest {
         }
     }
 
-    /** Nodes 0 and 4 are pairs, 1 is INT 0, 2 is INT -8, 3 raises. */
-    private static ImpreciseRaise outcomes() {
-        ImpreciseRaise x = new ImpreciseRaise(8);
-        x.addNode(ImpreciseRaise.K_PAIR, 7, 7, 0);
-        x.addNode(ImpreciseRaise.K_CONST, 0, 0, 0);
-        x.addNode(ImpreciseRaise.K_CONST, -8, 0, 0);
-        x.addNode(ImpreciseRaise.K_RAISE, 15, 0, 0);
-        x.addNode(ImpreciseRaise.K_PAIR, 7, 7, 0);
-        return x;
-    }
-
     /** Each outcome comes after each other one: nothing of the run before may stay. */
     private static void table(Due due) {
-        ImpreciseRaise x = outcomes();
+        ImpreciseRaise x = Sample.outcomes();
         due.sentence("INT v | R_INT | v | 0");
         for (int before = 0; before < 5; before++) {
             x.run(before);
             due.gives(x, 1, ImpreciseRaise.R_INT, 0);
             x.run(before);
-            due.gives(x, 2, ImpreciseRaise.R_INT, -8);
+            due.gives(x, 2, ImpreciseRaise.R_INT, -5);
         }
         due.sentence("PAIR k | R_PAIR | k | 0");
         for (int before = 0; before < 5; before++) {
@@ -82,7 +71,7 @@ public final class Promise4RootTest {
         due.sentence("exception e | R_EXC | 0 | e");
         for (int before = 0; before < 5; before++) {
             x.run(before);
-            due.raises(x, 3, 15);
+            due.raises(x, 3, 13);
         }
     }
 

@@ -1,16 +1,5 @@
 /** Promise 5: the last answers tell of the last accepted run and of nothing else. */
 public final class Promise5LastTest {
-    /** Node 0 is a pair, 1 INT 0, 2 INT -5, 3 raises 13, 4 a pair. */
-    private static ImpreciseRaise outcomes() {
-        ImpreciseRaise x = new ImpreciseRaise(8);
-        x.addNode(ImpreciseRaise.K_PAIR, 1, 3, 0);
-        x.addNode(ImpreciseRaise.K_CONST, 0, 0, 0);
-        x.addNode(ImpreciseRaise.K_CONST, -5, 0, 0);
-        x.addNode(ImpreciseRaise.K_RAISE, 13, 0, 0);
-        x.addNode(ImpreciseRaise.K_PAIR, 2, 2, 0);
-        return x;
-    }
-
     private static void callEverythingButRun(ImpreciseRaise x) {
         x.resetThunks();
         x.setScript(3L);
@@ -28,7 +17,7 @@ public final class Promise5LastTest {
         due.last(fresh, ImpreciseRaise.R_NONE, 0, 0);
         fresh.run(0);
         due.last(fresh, ImpreciseRaise.R_NONE, 0, 0);
-        ImpreciseRaise x = outcomes();
+        ImpreciseRaise x = Sample.outcomes();
         due.last(x, ImpreciseRaise.R_NONE, 0, 0);
         callEverythingButRun(x);
         due.last(x, ImpreciseRaise.R_NONE, 0, 0);
@@ -39,9 +28,10 @@ public final class Promise5LastTest {
 
     private static void afterValue(Due due) {
         due.sentence("lastOutcome() answers R_INT, R_PAIR or R_EXC as set by that run");
-        ImpreciseRaise x = outcomes();
+        ImpreciseRaise x = Sample.outcomes();
         int[] kinds = {
-            ImpreciseRaise.R_PAIR, ImpreciseRaise.R_INT, ImpreciseRaise.R_INT, ImpreciseRaise.R_EXC, ImpreciseRaise.R_PAIR,
+            ImpreciseRaise.R_PAIR, ImpreciseRaise.R_INT, ImpreciseRaise.R_INT, ImpreciseRaise.R_EXC,
+            ImpreciseRaise.R_PAIR,
         };
         for (int before = 0; before < 5; before++) {
             for (int root = 0; root < 5; root++) {
@@ -54,7 +44,7 @@ public final class Promise5LastTest {
 
     private static void exceptionOfTheRun(Due due) {
         due.sentence("lastException() answers that run's exception code, and 0 if it gave a value");
-        ImpreciseRaise x = outcomes();
+        ImpreciseRaise x = Sample.outcomes();
         for (int root : new int[] {0, 1, 2, 4}) {
             x.run(3);
             due.is("lastException()", x.lastException(), 13);
@@ -65,7 +55,7 @@ public final class Promise5LastTest {
 
     private static void valueOfTheRun(Due due) {
         due.sentence("lastValue() answers the int value, or the pair node index, of that run, and 0 if it raised");
-        ImpreciseRaise x = outcomes();
+        ImpreciseRaise x = Sample.outcomes();
         int[] values = {0, 0, -5, 0, 4};
         for (int root : new int[] {2, 3, 4, 3, 0, 2, 1, 4, 0, 4, 1}) {
             x.run(root);
@@ -77,7 +67,7 @@ public final class Promise5LastTest {
         due.sentence("A run refused with R_NONE does not count");
         int[][] rows = {{0, 2, 0, 0}, {1, 1, 0, 0}, {2, 1, -5, 0}, {3, 3, 0, 13}, {4, 2, 4, 0}};
         for (int[] row : rows) {
-            ImpreciseRaise x = outcomes();
+            ImpreciseRaise x = Sample.outcomes();
             x.run(row[0]);
             for (int refused : new int[] {Integer.MIN_VALUE, -1, 5, 7, 8, 32, Integer.MAX_VALUE}) {
                 due.is("run(" + refused + ")", x.run(refused), ImpreciseRaise.R_NONE);

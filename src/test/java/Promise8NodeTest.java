@@ -146,7 +146,8 @@ public final class Promise8NodeTest {
     }
 
     private static void agreesWithDenotation(Due due) {
-        due.sentence("whose nodeState is not ST_UNEVAL, nodeState(i) equals denKind(i) and nodeValue(i) equals denValue(i)");
+        due.sentence("whose nodeState is not ST_UNEVAL, nodeState(i) equals denKind(i) "
+            + "and nodeValue(i) equals denValue(i)");
         ImpreciseRaise x = Sample.everyKind();
         agree(due, x);
         for (int added = 13; added < 16; added++) {

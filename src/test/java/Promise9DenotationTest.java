@@ -12,7 +12,7 @@ public final class Promise9DenotationTest {
         due.sentence("K_PAIR node i: PAIR i");
         ImpreciseRaise pairs = new ImpreciseRaise(32);
         for (int i = 0; i < 32; i++) {
-            due.denotes(pairs, due.add(pairs, ImpreciseRaise.K_PAIR, i, 31 - i), ImpreciseRaise.R_PAIR, i);
+            due.denotes(pairs, due.add(pairs, ImpreciseRaise.K_PAIR, 31 - i, i ^ 1), ImpreciseRaise.R_PAIR, i);
         }
         due.sentence("K_RAISE: {a}");
         for (int code = 5; code <= 15; code++) {
@@ -81,6 +81,14 @@ public final class Promise9DenotationTest {
         binaryDenotes(due, 3, 0, Sample.TYPE);
         binaryDenotes(due, 0, 3, Sample.TYPE);
         binaryDenotes(due, 3, 3, Sample.TYPE);
+        for (int kind : Sample.BINARY) {
+            ImpreciseRaise x = new ImpreciseRaise(8);
+            due.add(x, ImpreciseRaise.K_PAIR, 0, 0);
+            due.add(x, ImpreciseRaise.K_CONST, 0);
+            due.denotesSet(x, due.add(x, kind, 0, 0), Sample.TYPE);
+            due.denotesSet(x, due.add(x, kind, 1, 0), Sample.TYPE);
+            due.denotesSet(x, due.add(x, kind, 0, 1), Sample.TYPE);
+        }
     }
 
     private static void everyCode(Due due) {
@@ -129,11 +137,17 @@ public final class Promise9DenotationTest {
     private static void branches(Due due) {
         ImpreciseRaise x = operands();
         due.sentence("K_IF, with C = D(a): if C is a set, C");
-        due.denotesSet(x, due.add(x, ImpreciseRaise.K_IF, 4, 2, 31), 1 << 5 | 1 << 15);
+        due.denotesSet(x, due.add(x, ImpreciseRaise.K_IF, 4, 31, 30), 1 << 5 | 1 << 15);
+        due.denotesSet(x, due.add(x, ImpreciseRaise.K_IF, 1, 2, 0), 1 << 5);
+        due.denotesSet(x, due.add(x, ImpreciseRaise.K_IF, 1, 0, 2), 1 << 5);
         due.denotesSet(x, due.add(x, ImpreciseRaise.K_IF, 31, 0, 0), Sample.MISSING);
         due.sentence("If C is a PAIR, {EXC_TYPE}");
         due.denotesSet(x, due.add(x, ImpreciseRaise.K_IF, 3, 0, 0), Sample.TYPE);
         due.denotesSet(x, due.add(x, ImpreciseRaise.K_IF, 3, 1, 1), Sample.TYPE);
+        // PAIR 0 must not pass for INT 0.
+        ImpreciseRaise y = new ImpreciseRaise(8);
+        due.add(y, ImpreciseRaise.K_PAIR, 0, 0);
+        due.denotesSet(y, due.add(y, ImpreciseRaise.K_IF, 0, 0, 0), Sample.TYPE);
         due.sentence("If C is INT not 0, D(b)");
         for (int c : new int[] {1, -1, 65536, MIN, MAX}) {
             int condition = due.add(x, ImpreciseRaise.K_CONST, c);
@@ -178,6 +192,23 @@ public final class Promise9DenotationTest {
         due.denotes(x, first, ImpreciseRaise.R_PAIR, 3);
         due.denotesSet(x, due.add(x, ImpreciseRaise.K_SND, pair), Sample.MISSING);
         due.denotesSet(x, due.add(x, ImpreciseRaise.K_FST, first), 1 << 5);
+        // The pair may stand at either end of the graph.
+        ImpreciseRaise edges = new ImpreciseRaise(32);
+        due.add(edges, ImpreciseRaise.K_PAIR, 2, 3);
+        due.add(edges, ImpreciseRaise.K_FST, 0);
+        due.add(edges, ImpreciseRaise.K_CONST, 7);
+        due.add(edges, ImpreciseRaise.K_RAISE, 7);
+        due.add(edges, ImpreciseRaise.K_SND, 0);
+        due.add(edges, ImpreciseRaise.K_FST, 31);
+        due.add(edges, ImpreciseRaise.K_SND, 31);
+        for (int i = 7; i < 31; i++) {
+            due.add(edges, ImpreciseRaise.K_CONST, i);
+        }
+        due.add(edges, ImpreciseRaise.K_PAIR, 3, 2);
+        due.denotes(edges, 1, ImpreciseRaise.R_INT, 7);
+        due.denotesSet(edges, 4, 1 << 7);
+        due.denotesSet(edges, 5, 1 << 7);
+        due.denotes(edges, 6, ImpreciseRaise.R_INT, 7);
     }
 
     private static void rangeOf(Due due, ImpreciseRaise x, int i) {

@@ -124,7 +124,8 @@ public final class Promise9LeastTest {
         x.addNode(ImpreciseRaise.K_SEQ, 4, 4, 0);
         due.sentence("denKind(i) answers R_INT, R_PAIR or R_EXC according to D(i)");
         int[] kinds = {
-            ImpreciseRaise.R_PAIR, ImpreciseRaise.R_INT, ImpreciseRaise.R_INT, ImpreciseRaise.R_EXC, ImpreciseRaise.R_EXC,
+            ImpreciseRaise.R_PAIR, ImpreciseRaise.R_INT, ImpreciseRaise.R_INT, ImpreciseRaise.R_EXC,
+            ImpreciseRaise.R_EXC,
         };
         for (int i = 0; i < 5; i++) {
             due.is("denKind(" + i + ")", x.denKind(i), kinds[i]);

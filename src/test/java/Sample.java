@@ -46,6 +46,17 @@ final class Sample {
         return x;
     }
 
+    /** A root for each outcome: node 0 is a pair, 1 INT 0, 2 INT -5, 3 raises 13, 4 is a pair. */
+    static ImpreciseRaise outcomes() {
+        ImpreciseRaise x = new ImpreciseRaise(8);
+        x.addNode(ImpreciseRaise.K_PAIR, 1, 3, 0);
+        x.addNode(ImpreciseRaise.K_CONST, 0, 0, 0);
+        x.addNode(ImpreciseRaise.K_CONST, -5, 0, 0);
+        x.addNode(ImpreciseRaise.K_RAISE, 13, 0, 0);
+        x.addNode(ImpreciseRaise.K_PAIR, 2, 2, 0);
+        return x;
+    }
+
     /** A full graph of the given capacity: node 0 sums up a chain of ones that ends at the last node. */
     static ImpreciseRaise full(int capacity) {
         ImpreciseRaise x = new ImpreciseRaise(capacity);

@@ -76,20 +76,37 @@ final class Twins {
         runEveryRoot(due, x, twin);
     }
 
-    /** The named queries change nothing: after each, every other answers as on an object that was asked nothing. */
+    /** The named queries change nothing: after each, x does as a twin that was asked nothing. */
     static void queriesChangeNothing(Due due, Supplier<ImpreciseRaise> make, String... names) {
-        for (String call : QUERIES.keySet()) {
-            if (!Set.of(names).contains(call.substring(0, call.indexOf('(')))) {
-                continue;
+        Set<String> named = Set.of(names);
+        QUERIES.forEach((call, query) -> {
+            if (named.contains(call.substring(0, call.indexOf('(')))) {
+                Supplier<ImpreciseRaise> asked = () -> {
+                    ImpreciseRaise x = make.get();
+                    query.applyAsLong(x);
+                    return x;
+                };
+                sameOneByOne(due, call, asked, make);
+                sameRunsUnasked(due, call, asked, make);
             }
-            QUERIES.forEach((later, query) -> {
-                ImpreciseRaise x = make.get();
-                QUERIES.get(call).applyAsLong(x);
-                due.is(later + " after " + call, query.applyAsLong(x), query.applyAsLong(make.get()));
-            });
-            ImpreciseRaise x = make.get();
-            QUERIES.get(call).applyAsLong(x);
-            sameEverAfter(due, x, make.get());
+        });
+    }
+
+    private static void sameOneByOne(
+            Due due, String call, Supplier<ImpreciseRaise> asked, Supplier<ImpreciseRaise> make) {
+        QUERIES.forEach((later, query) ->
+            due.is(later + " after " + call, query.applyAsLong(asked.get()), query.applyAsLong(make.get())));
+    }
+
+    private static void sameRunsUnasked(
+            Due due, String call, Supplier<ImpreciseRaise> asked, Supplier<ImpreciseRaise> make) {
+        for (int root = 0; root < make.get().nodeCount(); root++) {
+            ImpreciseRaise x = asked.get();
+            ImpreciseRaise twin = make.get();
+            x.resetThunks();
+            twin.resetThunks();
+            due.is("run(" + root + ") after " + call, x.run(root), twin.run(root));
+            same(due, x, twin);
         }
     }
 }
