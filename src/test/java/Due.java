@@ -109,6 +109,29 @@ final class Due {
         denotes(x, i, ImpreciseRaise.R_NONE, 0);
     }
 
+    /** Both points of the agreement, read right after an accepted run(root). */
+    void runAgrees(ImpreciseRaise x, int root, int answer) {
+        int set = x.denSet(root);
+        is("run(" + root + ") raised, where denSet(" + root + ") is " + set,
+            answer == ImpreciseRaise.R_EXC ? 1 : 0, set != 0 ? 1 : 0);
+        if (answer == ImpreciseRaise.R_EXC) {
+            int code = x.lastException();
+            isTrue("bit " + code + " of denSet(" + root + "), which is " + set, code > 0 && (set >>> code & 1) == 1);
+        } else {
+            denotes(x, root, answer, x.lastValue());
+        }
+    }
+
+    /** Every node that holds a value holds the one that it denotes. */
+    void statesAgree(ImpreciseRaise x) {
+        for (int i = 0; i < x.nodeCount(); i++) {
+            if (x.nodeState(i) != ImpreciseRaise.ST_UNEVAL) {
+                is("nodeState(" + i + ") against denKind", x.nodeState(i), x.denKind(i));
+                is("nodeValue(" + i + ") against denValue", x.nodeValue(i), x.denValue(i));
+            }
+        }
+    }
+
     boolean allRight() {
         return wrong == 0;
     }

@@ -156,15 +156,21 @@ final class Model {
             now.add(new Den(3, 0xFFFE));
         }
         while (true) {
-            List<Den> next = new ArrayList<>();
-            for (int i = 0; i < nodes.size(); i++) {
-                next.add(equation(i, now));
-            }
+            List<Den> next = round(now);
             if (next.equals(now)) {
                 return now;
             }
             now = next;
         }
+    }
+
+    /** Every node recomputed from what is given for all of them. */
+    List<Den> round(List<Den> now) {
+        List<Den> next = new ArrayList<>();
+        for (int i = 0; i < nodes.size(); i++) {
+            next.add(equation(i, now));
+        }
+        return next;
     }
 
     private static Den look(int r, List<Den> now) {

@@ -26,33 +26,12 @@ public final class Promise4AgreementTest {
 
     private final Due due = new Due("Promise4AgreementTest");
 
-    private void runAgrees(ImpreciseRaise x, int root) {
-        int answer = x.run(root);
-        if (answer == ImpreciseRaise.R_EXC) {
-            due.is("bit lastException() of denSet", (x.denSet(root) >>> x.lastException()) & 1, 1);
-            due.isTrue("a code is in 1..15", x.lastException() >= 1 && x.lastException() <= 15);
-        } else {
-            due.denotes(x, root, answer, x.lastValue());
-        }
-        due.is("R_INT or R_PAIR exactly when denSet is 0", answer == ImpreciseRaise.R_EXC ? 0 : 1,
-            x.denSet(root) == 0 ? 1 : 0);
-    }
-
-    private void statesAgree(ImpreciseRaise x) {
-        for (int i = 0; i < x.nodeCount(); i++) {
-            if (x.nodeState(i) != ImpreciseRaise.ST_UNEVAL) {
-                due.is("denKind(" + i + ")", x.denKind(i), x.nodeState(i));
-                due.is("denValue(" + i + ")", x.denValue(i), x.nodeValue(i));
-            }
-        }
-    }
-
     private void runsAgree(ImpreciseRaise x) {
         for (long script = 0; script < 4; script++) {
             x.setScript(script);
             for (int root = 0; root < x.nodeCount(); root++) {
-                runAgrees(x, root);
-                statesAgree(x);
+                due.runAgrees(x, root, x.run(root));
+                due.statesAgree(x);
             }
             if (script == 1) {
                 x.resetThunks();
@@ -73,7 +52,7 @@ public final class Promise4AgreementTest {
                     x.addNode(second[0], second[1], second[2], second[3]);
                     runsAgree(x);
                     x.addNode(third[0], third[1], third[2], third[3]);
-                    statesAgree(x);
+                    due.statesAgree(x);
                     runsAgree(x);
                 }
             }
@@ -88,7 +67,7 @@ public final class Promise4AgreementTest {
                 ImpreciseRaise x = Sample.everyKind();
                 x.setScript(script);
                 for (int root = 12; root >= 0; root--) {
-                    runAgrees(x, root);
+                    due.runAgrees(x, root, x.run(root));
                     if (reset == 1) {
                         x.resetThunks();
                     }
@@ -97,8 +76,8 @@ public final class Promise4AgreementTest {
                 due.add(x, ImpreciseRaise.K_CONST, 2);
                 due.add(x, ImpreciseRaise.K_ADD, 13, 12);
                 for (int root = 15; root >= 0; root--) {
-                    runAgrees(x, root);
-                    statesAgree(x);
+                    due.runAgrees(x, root, x.run(root));
+                    due.statesAgree(x);
                 }
             }
         }

@@ -1,7 +1,4 @@
-import java.lang.reflect.Field;
-import java.lang.reflect.Method;
-
-/** Promise 4: which nodes take which bits of the script, and where pos begins and wraps. */
+/** Promise 4: which nodes take which bits of the script, and where pos begins. */
 public final class Promise4ScriptBitsTest {
     /** A ring of 31 binary nodes: to the left lies the next one, to the right a missing one. */
     private static ImpreciseRaise ring(Due due) {
@@ -39,26 +36,6 @@ public final class Promise4ScriptBitsTest {
             for (int bit = 0; bit < 29; bit++) {
                 x.setScript(1L << bit);
                 due.raises(x, 0, bit == turn ? 6 : ImpreciseRaise.EXC_MISSING);
-            }
-        }
-    }
-
-    /**
-     * A run enters each of at most 32 nodes once, so no calls take a 65th bit. Only a look inside can tell whether
-     * pos wraps; a new name for these two members asks for a new name here.
-     */
-    private static void wrap(Due due) throws ReflectiveOperationException {
-        due.sentence("Within one run, pos wraps from 63 back to 0");
-        Field pos = ImpreciseRaise.class.getDeclaredField("scriptPosition");
-        Method take = ImpreciseRaise.class.getDeclaredMethod("takeScriptBit");
-        pos.setAccessible(true);
-        take.setAccessible(true);
-        for (long word : new long[] {1L, Long.MIN_VALUE, 0x0123456789ABCDEFL, ~1L, Long.MAX_VALUE}) {
-            ImpreciseRaise x = new ImpreciseRaise(8);
-            x.setScript(word);
-            for (int taken = 0; taken < 200; taken++) {
-                due.is("pos", pos.getInt(x), taken % 64);
-                due.is("bit at " + taken, (Integer) take.invoke(x), (word >>> (taken % 64)) & 1);
             }
         }
     }
@@ -142,11 +119,10 @@ public final class Promise4ScriptBitsTest {
         }
     }
 
-    public static void main(String[] args) throws ReflectiveOperationException {
+    public static void main(String[] args) {
         Due due = new Due("Promise4ScriptBitsTest");
         bitsInTurn(due);
         eachBitOnce(due);
-        wrap(due);
         startsAgain(due);
         onlyBinary(due);
         everyBinaryKind(due);

@@ -136,31 +136,22 @@ public final class Promise8NodeTest {
         }
     }
 
-    private static void agree(Due due, ImpreciseRaise x) {
-        for (int i = 0; i < x.nodeCount(); i++) {
-            if (x.nodeState(i) != ImpreciseRaise.ST_UNEVAL) {
-                due.is("nodeState(" + i + ")", x.nodeState(i), x.denKind(i));
-                due.is("nodeValue(" + i + ")", x.nodeValue(i), x.denValue(i));
-            }
-        }
-    }
-
     private static void agreesWithDenotation(Due due) {
         due.sentence("whose nodeState is not ST_UNEVAL, nodeState(i) equals denKind(i) "
             + "and nodeValue(i) equals denValue(i)");
         ImpreciseRaise x = Sample.everyKind();
-        agree(due, x);
+        due.statesAgree(x);
         for (int added = 13; added < 16; added++) {
             for (int root = 0; root < added; root++) {
                 x.run(root);
-                agree(due, x);
+                due.statesAgree(x);
             }
             // The new node ends a wait of nodes that have been interrupted before.
             due.add(x, ImpreciseRaise.K_SEQ, 0, 2);
-            agree(due, x);
+            due.statesAgree(x);
         }
         x.resetThunks();
-        agree(due, x);
+        due.statesAgree(x);
     }
 
     private static void changeNothing(Due due) {
