@@ -3,6 +3,9 @@
  * with their verdict.
  */
 final class Due {
+    // The first wrong answers tell enough; the rest would only flood the output.
+    private static final int PRINTED = 40;
+
     private final String test;
     private String sentence = "";
     private int sentences = 0;
@@ -24,9 +27,15 @@ final class Due {
 
     // A sentence without an answer would pass whatever the program did.
     private void endSentence() {
-        if (sentences > 0 && askedOfSentence == 0) {
-            wrong++;
-            System.out.println(test + ": nothing is asked of \"" + sentence + "\"");
+        if (sentences > 0 && askedOfSentence == 0 && allRight()) {
+            isWrong("nothing is asked");
+        }
+    }
+
+    private void isWrong(String what) {
+        wrong++;
+        if (wrong <= PRINTED) {
+            System.out.println(test + ": " + (sentence.isEmpty() ? "" : "\"" + sentence + "\": ") + what);
         }
     }
 
@@ -34,13 +43,19 @@ final class Due {
         asked++;
         askedOfSentence++;
         if (got != want) {
-            wrong++;
-            System.out.println(test + ": \"" + sentence + "\": " + call + " answered " + got + ", due is " + want);
+            isWrong(call + " answered " + got + ", due is " + want);
         }
     }
 
     void isTrue(String claim, boolean holds) {
         is(claim, holds ? 1 : 0, 1);
+    }
+
+    /** What the test itself must have come to, or it tells nothing. A wrong answer ends it before that. */
+    void reached(String what, boolean enough) {
+        if (allRight()) {
+            isTrue(what + " reached", enough);
+        }
     }
 
     /** Adds a node that must be accepted, and answers its index. */

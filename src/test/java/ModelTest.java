@@ -77,10 +77,10 @@ public final class ModelTest extends Sequence {
     /** The mixture must really reach every outcome and every code, or it tells nothing. */
     private void reached() {
         for (int outcome = 0; outcome < 4; outcome++) {
-            due.isTrue("outcome " + outcome + " reached", outcomes[outcome] > 0);
+            due.reached("outcome " + outcome, outcomes[outcome] > 0);
         }
         for (int code = 1; code < 16; code++) {
-            due.isTrue("code " + code + " reached", codes[code] > 0);
+            due.reached("code " + code, codes[code] > 0);
         }
     }
 

@@ -32,12 +32,12 @@ public final class Promise4SequencesTest extends Sequence {
     /** The sequences must really have led to every outcome and every code, or they tell nothing. */
     private void reached() {
         for (int outcome = 0; outcome < 4; outcome++) {
-            due.isTrue("outcome " + outcome + " reached", outcomes[outcome] > 1000);
+            due.reached("outcome " + outcome, outcomes[outcome] > 1000);
         }
         for (int code = 1; code < 16; code++) {
-            due.isTrue("code " + code + " reached", codes[code] > 100);
+            due.reached("code " + code, codes[code] > 100);
         }
-        due.isTrue("values given where runs were interrupted before", valuesAfterInterruption > 1000);
+        due.reached("values given where runs were interrupted before", valuesAfterInterruption > 1000);
     }
 
     /** Whenever the graph has grown, every root is run in all the ways that the sentence names. */

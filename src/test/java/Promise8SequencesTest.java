@@ -29,9 +29,9 @@ public final class Promise8SequencesTest extends Sequence {
 
     /** Updates of both sorts must really have been there to look at, also when the graph grew. */
     private void reached() {
-        due.isTrue("updates with an INT", heldAs[ImpreciseRaise.R_INT] > 1000);
-        due.isTrue("updates with a PAIR", heldAs[ImpreciseRaise.R_PAIR] > 1000);
-        due.isTrue("updates held while a node was added", heldAtNewNodes > 1000);
+        due.reached("updates with an INT", heldAs[ImpreciseRaise.R_INT] > 1000);
+        due.reached("updates with a PAIR", heldAs[ImpreciseRaise.R_PAIR] > 1000);
+        due.reached("updates held while a node was added", heldAtNewNodes > 1000);
     }
 
     public static void main(String[] args) {

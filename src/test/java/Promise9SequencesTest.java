@@ -97,8 +97,8 @@ public final class Promise9SequencesTest extends Sequence {
 
     /** Graphs with several solutions must really have come, and nodes that changed what older ones denote. */
     private void reached() {
-        due.isTrue("solutions other than the least", otherSolutions > 1000);
-        due.isTrue("nodes that changed what older ones denote", grown > 1000);
+        due.reached("solutions other than the least", otherSolutions > 1000);
+        due.reached("nodes that changed what older ones denote", grown > 1000);
     }
 
     public static void main(String[] args) {

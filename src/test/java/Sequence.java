@@ -1,6 +1,9 @@
+import java.util.ArrayList;
+import java.util.List;
+
 /**
- * Long sequences of calls, the same ones every time. A test extends this class and looks at each call right after it;
- * the one who reads a wrong answer gets the calls that led to it by playing the same sequence again.
+ * Long sequences of calls, the same ones every time. A test extends this class and looks at each call right after it.
+ * The first sequence with a wrong answer is the last one that is played.
  */
 abstract class Sequence {
     /** The kinds and references that the nodes of a sequence lean towards, so that no way of going wrong stays rare. */
@@ -20,6 +23,7 @@ abstract class Sequence {
         }
     }
 
+    private static final int FEW_CALLS = 100;
     private static final int[] CONSTANTS = {0, 0, 1, 1, 2, 3, -1, -2, Integer.MIN_VALUE, Integer.MAX_VALUE, 65537};
 
     protected final Due due;
@@ -28,6 +32,7 @@ abstract class Sequence {
     private Leaning leaning;
     // Where a chain goes on: from a node to the one before it or to the one after it.
     private int nextInChain;
+    private final List<String> made = new ArrayList<>();
 
     Sequence(Due due) {
         this.due = due;
@@ -52,27 +57,40 @@ abstract class Sequence {
 
     /** Many sequences in which the graph grows fast, and long ones in which it has many runs at each of its sizes. */
     final void playAll(int many, int longOnes) {
-        for (int i = 0; i < many && due.allRight(); i++) {
-            play(i, 4 + pick(34), 100, 3);
+        for (int i = 0; i < many; i++) {
+            play(i, 4 + pick(34), FEW_CALLS, 3);
         }
-        for (int i = 0; i < longOnes && due.allRight(); i++) {
+        for (int i = 0; i < longOnes; i++) {
             play(i, 8 + pick(25), 6000, 150);
         }
     }
 
     /** One in so many calls adds a node; the others are runs, scripts and resets. */
     final void play(int number, int capacity, int calls, int addsOneIn) {
+        if (!due.allRight()) {
+            return;
+        }
         leaning = Leaning.values()[number % Leaning.values().length];
         nextInChain = 2 * pick(2) - 1;
         x = new ImpreciseRaise(capacity);
+        made.clear();
         begins(capacity);
-        for (int call = 1; call <= calls && due.allRight(); call++) {
+        while (made.size() < calls && due.allRight()) {
             before();
-            String made = pick(addsOneIn) == 0 ? add() : callBesides();
+            made.add(pick(addsOneIn) == 0 ? add() : callBesides());
             after();
-            if (!due.allRight()) {
-                System.out.println("  after " + made + ", call " + call + " of a sequence of " + calls
-                    + " leaning to " + leaning + ", capacity " + capacity);
+        }
+        if (!due.allRight()) {
+            tellCalls(capacity);
+        }
+    }
+
+    /** Every call that led to the wrong answer, or of a long sequence its nodes and its last calls. */
+    private void tellCalls(int capacity) {
+        System.out.println("  after " + made.size() + " calls on new ImpreciseRaise(" + capacity + "):");
+        for (int i = 0; i < made.size(); i++) {
+            if (i >= made.size() - FEW_CALLS || made.get(i).startsWith("addNode")) {
+                System.out.println("  " + (i + 1) + ". " + made.get(i));
             }
         }
     }

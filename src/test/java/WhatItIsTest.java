@@ -36,7 +36,7 @@ public final class WhatItIsTest {
         Answers answers = new Answers(due);
         answers.playAll(2100, 21);
         for (int view = 0; view < 3; view++) {
-            due.isTrue("pairs reached in view " + view, answers.pairs[view] > 1000);
+            due.reached("pairs of view " + view, answers.pairs[view] > 1000);
         }
     }
 
